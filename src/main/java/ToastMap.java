@@ -1771,19 +1771,19 @@ public final class ToastMap {
             int person = times.people[row];
             switch (times.words[row]) {
                 case DRINK:
-                    tryDrink(company, person);
+                    liveDrink(company, person);
                     break;
                 case NIGHT:
-                    tryNights(company, times.numbers[row]);
+                    liveNights(company, times.numbers[row]);
                     break;
                 case EVENING:
-                    tryEvening(company);
+                    liveEvening(company);
                     break;
                 case FILL:
-                    tryFill(company, person, times.numbers[row]);
+                    liveFill(company, person, times.numbers[row]);
                     break;
                 case ANY:
-                    tryAny(company);
+                    liveAny(company);
                     break;
                 case WHEN:
                     return holds(company, times, row) ? row + 1 : times.partners[row] + 1;
@@ -1796,7 +1796,7 @@ public final class ToastMap {
             return row + 1;
         }
 
-        private void tryDrink(Company company, int person) {
+        private void liveDrink(Company company, int person) {
             if (!company.has(person) || !company.canDrink(person)) {
                 missed++;
                 return;
@@ -1805,7 +1805,7 @@ public final class ToastMap {
             drinks++;
         }
 
-        private void tryNights(Company company, int many) {
+        private void liveNights(Company company, int many) {
             if (!company.hasNights(many)) {
                 missed++;
                 return;
@@ -1814,7 +1814,7 @@ public final class ToastMap {
             nights += many;
         }
 
-        private void tryEvening(Company company) {
+        private void liveEvening(Company company) {
             if (!company.hasNights(1)) {
                 missed++;
                 return;
@@ -1824,7 +1824,7 @@ public final class ToastMap {
             evenings++;
         }
 
-        private void tryFill(Company company, int person, int many) {
+        private void liveFill(Company company, int person, int many) {
             if (!company.has(person) || company.glasses[person] == many) {
                 missed++;
                 return;
@@ -1832,16 +1832,16 @@ public final class ToastMap {
             company.glasses[person] = many;
         }
 
-        private void tryAny(Company company) {
+        private void liveAny(Company company) {
             if (company.count < 1) {
                 missed++;
                 return;
             }
             int person = drawBy(company.count);
             if (drawBy(16) < company.rules[ODDS]) {
-                tryDrink(company, person);
+                liveDrink(company, person);
             } else {
-                tryNights(company, 1);
+                liveNights(company, 1);
             }
         }
 
