@@ -9,6 +9,7 @@ public final class AheadTest {
         lastNight();
         settles();
         chain();
+        longChain();
         rings();
         needs();
         most();
@@ -127,6 +128,26 @@ public final class AheadTest {
         Check.due("chain of -1", x, x.chain(-1), -1, 1);
     }
 
+    private static void longChain() {
+        ToastMap x = new ToastMap();
+        for (int i = 0; i < 7; i++) {
+            x.come(i);
+        }
+        for (int i = 0; i < 6; i++) {
+            x.aim(i, i + 1);
+        }
+        Check.due("seven long", x, x.chain(0), 7, 0);
+        Check.due("the last", x, x.chainAt(0, 6), 6, 0);
+        x.aim(6, 0);
+        for (int i = 0; i < 7; i++) {
+            Check.due("round from " + i, x, x.chain(i), 7, 0);
+            Check.due("the one ahead of " + i, x, x.chainAt(i, 6), (i + 6) % 7, 0);
+        }
+        Check.due("no eighth", x, x.chainAt(0, 7), -1, 6);
+        Check.due("one ring", x, x.rings(), 1, 0);
+        Check.due("of all", x, x.inRings(), 127, 0);
+    }
+
     private static void rings() {
         ToastMap x = new ToastMap();
         for (int i = 0; i < 7; i++) {
@@ -162,6 +183,10 @@ public final class AheadTest {
         Check.due("nobody warms him", x, x.needs(2), -1, 6);
         x.means(0, 0);
         Check.due("warm by 0", x, x.needs(1), -1, 6);
+        ToastMap y = Check.of("person a at 0 glasses 9; person b at 9; toast a to b; glow 9;");
+        Check.due("one by one", y, y.needs(1), 9, 0);
+        y.rule(3, 10);
+        Check.due("one too much", y, y.needs(1), -1, 6);
         Check.due("person 4", x, x.needs(4), -1, 1);
         Check.due("person -1", x, x.needs(-1), -1, 1);
         Check.due("nothing changes", x.person(3, 2), 5);

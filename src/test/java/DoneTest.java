@@ -76,6 +76,14 @@ public final class DoneTest {
         Check.due("20 less 30", y.person(1, 2), 0);
         ToastMap z = Check.of("person a at 0 warm 20; person b at 0 warm 19; toast b to a;");
         Check.due("lit without whom, whom without light", z, z.evening(), 0, 0);
+        ToastMap v = new ToastMap();
+        for (int i = 0; i < 100; i++) {
+            v.night(99);
+        }
+        v.night(98);
+        Check.due("to 9,999", v, v.evening(), 0, 0);
+        Check.due("the last", v.told(7), 9999);
+        Check.due("none behind it", v, v.evening(), -1, 4);
         ToastMap w = Check.of("person a at 0 meant 0 warm 20; person b at 0 warm 10; toast a to b;");
         Check.due("who warms by 0 warms", w, w.evening(), 1, 0);
     }

@@ -155,6 +155,10 @@ public final class TimesTest {
             }
             counts("by seed " + seed, x, 0, nights, 8 - nights, 0, 0);
         }
+        ToastMap z = with("person a at 0; cool 1;", "any;");
+        z.rule(1, 0);
+        z.live(77);
+        counts("a night by one alone", z, 0, 1, 0, 0, 0);
         ToastMap y = new ToastMap();
         Check.times(y, "any;");
         Check.due("any without people", y, y.live(5), 1, 0);

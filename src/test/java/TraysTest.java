@@ -71,8 +71,10 @@ public final class TraysTest {
         Check.due("many large", x, x.tray(0, 0, LARGE), false, 1);
         x.write(0, 59, 5);
         Check.due("the old one stays", x, x.read(0, 59), 5, 0);
+        x.write(0, 0, 6);
         x.tray(0, 1, 60);
         Check.due("a row of 0s", x, x.read(0, 59), 0, 0);
+        Check.due("a row of 0s, the first", x, x.read(0, 0), 0, 0);
     }
 
     private static void write() {

@@ -165,6 +165,9 @@ public final class WarmsTest {
             Check.due("can't be, of none", x, x.laws(1, 0), 180, 0);
             Check.due("can't be, lawOf", x, x.lawOf(1, 1, 0), -1, 5);
         }
+        lay(x, 1, 1, 0, 0, 0, 0, 0, 0, 0, 0, 201);
+        Check.due("the third can't be", x, x.laws(1, 3), -1, 5);
+        Check.due("the first two can", x, x.laws(1, 2), 180, 0);
         lay(x, 1, 1, 0, 0, 200);
         Check.due("200 can be", x, x.laws(1, 1), 0, 0);
         lay(x, 1, 0, 9, 0, 180);
@@ -186,6 +189,10 @@ public final class WarmsTest {
         Check.due("reach", x, x.lawOf(0, 1, 1), 6, 0);
         Check.due("two, heat", x, x.lawOf(0, 2, 0), 9, 0);
         Check.due("two, reach", x, x.lawOf(0, 2, 1), 3, 0);
+        lay(x, 1, 1, 9, 59, 174);
+        Check.due("heat 20", x, x.lawOf(1, 1, 0), 20, 0);
+        Check.due("reach 9", x, x.lawOf(1, 1, 1), 9, 0);
+        Check.due("that alone", x, x.laws(1, 1), 1, 0);
         Check.due("first of all, heat", x, x.lawOf(0, 0, 0), 1, 0);
         Check.due("first of all, reach", x, x.lawOf(0, 0, 1), 1, 0);
         Check.due("what 2", x, x.lawOf(0, 0, 2), -1, 1);
@@ -259,6 +266,9 @@ public final class WarmsTest {
         Check.due("takes nothing", x, x.game(2), 1, 0);
         Check.due("n 5", x, x.game(5), -1, 1);
         Check.due("n -1", x, x.game(-1), -1, 1);
+        ToastMap z = Check.of("person a at 0 warm 25; person b at 0 warm 26;");
+        Check.due("taken once", z, z.game(2), 2, 0);
+        Check.due("taken twice from one", z, z.game(4), 1, 0);
         ToastMap y = Check.of("person a at 0 warm 20; person b at 0 warm 20;");
         Check.due("the butler has nothing", y, y.game(1), 2, 0);
         Check.due("one of two", y, y.game(2), 1, 0);
